@@ -7,6 +7,7 @@ final class CranesAndZonesTest {
         newObject();
         addCrane();
         addCraneErrors();
+        eachCraneHasItsOwn();
         setPriority();
         setArc();
         setArcErrors();
@@ -81,6 +82,34 @@ final class CranesAndZonesTest {
         Check.due("p2 BAD_VALUE before FULL", full.addCrane(36, 1, 0), Sites.BAD_VALUE);
         Check.due("p2 BAD_VALUE before FULL", full.addCrane(0, 0, 0), Sites.BAD_VALUE);
         Check.due("p2 BAD_VALUE before FULL", full.addCrane(0, 1, 10), Sites.BAD_VALUE);
+    }
+
+    // Each crane keeps its numbers apart from those of the others.
+    private static void eachCraneHasItsOwn() {
+        CraneGuard x = new CraneGuard();
+        for (int crane = 0; crane < 4; crane++) {
+            x.addCrane(10 * crane, 1 + crane, 2 * crane);
+        }
+        for (int crane = 0; crane < 4; crane++) {
+            Check.due("p11 slew(" + crane + ", ..)", x.slew(crane, 10 * crane + 3, 1), 3);
+            Check.due("p3 setPriority(" + crane + ", 9)", x.setPriority(crane, 9), 2 * crane);
+            Check.due("p4 setArc(" + crane + ", ..)", x.setArc(crane, crane, 35, 35), 1);
+            Check.due("p13 turnRound(" + crane + ")", x.turnRound(crane), 33);
+            Check.due("p13 its way", x.crane(crane, Sites.WAY), -1);
+            Check.due("p12 stop(" + crane + ")", x.stop(crane), 10 * crane + 3);
+        }
+        for (int crane = 0; crane < 4; crane++) {
+            Check.due("p23 leave(" + crane + ", true)", x.leave(crane, true), 0);
+            Check.due("p7 its zones", x.crane(crane, Sites.OCCUPIED), 1 << crane);
+        }
+        x.setWind(1);
+        x.tick(1);
+        int[] angles = {1, 9, 21, 31};
+        for (int crane = 0; crane < 4; crane++) {
+            Check.due("p14 crane " + crane + " turned to the wind", x.crane(crane, Sites.ANGLE), angles[crane]);
+            Check.due("p5 removeArc(" + crane + ", ..)", x.removeArc(crane, crane), 1);
+            Check.due("p7 its zones", x.crane(crane, Sites.OCCUPIED), 0);
+        }
     }
 
     // Promise 3

@@ -253,6 +253,10 @@ final class WaitingTest {
         for (int many = 1; many <= 6; many++) {
             Check.due("p21 waits(1, " + many + ")", y.waits(1, many), Math.min(many, 3));
         }
+        y.tick(2);
+        Check.due("p21 it waited before", y.crane(1, Sites.WAIT), 2);
+        Check.due("p21 waits(1, 2) behind that", y.waits(1, 2), 1);
+        Check.due("p21 waits(1, 1000) behind that", y.waits(1, 1000), 1);
         // Crane 2 turns for long, and crane 1 waits in those ticks and for ever behind them.
         CraneGuard z = Sites.inCycle();
         z.addCrane(20, 5, 0);
