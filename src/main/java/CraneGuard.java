@@ -327,7 +327,7 @@ public final class CraneGuard {
     }
 
     private static int stepsClockwise(int from, int to) {
-        return Math.floorMod(to - from, ANGLES);
+        return (to - from + ANGLES) % ANGLES;
     }
 
     private static int shorterWay(int from, int to) {
@@ -826,14 +826,15 @@ public final class CraneGuard {
         /** Finds the commands of the text; returns its fault, or NONE. */
         int read(Site site) {
             position = 0;
-            for (commands = 0; commands < MOST_COMMANDS; commands++) {
-                int fault = readCommand(site);
+            commands = 0;
+            for (int k = 0; k < MOST_COMMANDS; k++) {
+                int fault = readCommand(k, site);
                 if (fault != NONE) {
                     return fault;
                 }
+                commands = k + 1;
                 skipBlanks();
                 if (byteHere() == END) {
-                    commands++;
                     return NONE;
                 }
                 if (byteHere() != ';') {
@@ -850,8 +851,8 @@ public final class CraneGuard {
             }
         }
 
-        /** Reads the next command; returns its fault (which is the length where the text ends), or NONE. */
-        private int readCommand(Site site) {
+        /** Reads command k; returns its fault (which is the length where the text ends), or NONE. */
+        private int readCommand(int k, Site site) {
             skipBlanks();
             int crane = byteHere() - '0';
             if (!site.hasCrane(crane) || !site.canAim(crane)) {
@@ -870,9 +871,9 @@ public final class CraneGuard {
             if (target == BAD_ANGLE) {
                 return start;
             }
-            craneOf[commands] = crane;
-            wayOf[commands] = way;
-            targetOf[commands] = target;
+            craneOf[k] = crane;
+            wayOf[k] = way;
+            targetOf[k] = target;
             return NONE;
         }
 
