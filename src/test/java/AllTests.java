@@ -13,9 +13,21 @@ public final class AllTests {
         HistoryTest.run();
         TextTest.run();
         DigestTest.run();
+        boundaries();
         ModelTest.run();
         if (!Check.report()) {
             System.exit(1);
         }
+    }
+
+    private static void boundaries() {
+        Doc.read();
+        BoundaryCranesTest.run();
+        BoundaryTurningTest.run();
+        BoundaryWaitingTest.run();
+        BoundaryWindTest.run();
+        BoundaryTextTest.run();
+        BoundaryHistoryTest.run();
+        Doc.dueWhole();
     }
 }

@@ -2,25 +2,30 @@
 final class Check {
     private static int passed = 0;
     private static int failed = 0;
+    /** The words of the document that are being tested, if a test has named them. */
+    private static String about = "";
 
     private Check() {
     }
 
+    static void about(String words) {
+        about = words;
+    }
+
     static void due(String call, long got, long want) {
-        if (got == want) {
-            passed++;
-        } else {
-            failed++;
-            System.out.println(call + " answered " + got + ", due is " + want);
-        }
+        count(got == want, call, " answered " + got + ", due is " + want);
     }
 
     static void holds(String what, boolean is) {
-        if (is) {
+        count(is, what, ": not so");
+    }
+
+    private static void count(boolean good, String what, String fault) {
+        if (good) {
             passed++;
         } else {
             failed++;
-            System.out.println("not so: " + what);
+            System.out.println(what + fault + (about.isEmpty() ? "" : " [" + about + "]"));
         }
     }
 
