@@ -15,6 +15,8 @@ final class BoundaryCranesTest {
         noArcsAtFirst();
         arcWithBothEnds();
         arcOfOneAngle();
+        fullSite();
+        fullSiteLeft();
         newSite();
         newSitesAreApart();
         addCraneAnew();
@@ -175,6 +177,71 @@ final class BoundaryCranesTest {
                 CraneGuard x = Sites.withCranes(angle);
                 x.setArc(0, 0, only, only);
                 Check.due(angle + " in " + only + " alone", x.occupants(0), angle == only ? 1 : 0);
+            }
+        }
+    }
+
+    /**
+     * All that there can be: four cranes with arcs in all zones, ten notes and a full history, at the time 9. All
+     * arcs are far from the jibs, so that nobody waits; crane 1 has done ten steps.
+     */
+    private static CraneGuard full() {
+        CraneGuard x = new CraneGuard();
+        x.addCrane(10, 2, 0);
+        x.addCrane(12, 1, 9);
+        x.addCrane(14, 5, 4);
+        x.addCrane(16, 3, 4);
+        for (int crane = 0; crane < 4; crane++) {
+            for (int zone = 0; zone < 6; zone++) {
+                x.setArc(crane, zone, 34, 1);
+            }
+        }
+        x.tick(9);
+        x.slew(1, 32, 1);
+        for (int note = 0; note < 10; note++) {
+            x.override(1, 9);
+        }
+        x.slew(0, 9, -1);
+        x.slew(2, 3, -1);
+        x.slew(3, 19, 1);
+        return x;
+    }
+
+    private static void fullSite() {
+        Doc.says(ZONES, "There are at most 4 cranes, numbered from 0.");
+        CraneGuard x = full();
+        for (int zone = 0; zone < 6; zone++) {
+            x.setArc(3, zone, 17, 17);
+        }
+        Check.due("notes()", x.notes(), 10);
+        for (int crane = 0; crane < 4; crane++) {
+            Check.due("blocker(" + crane + ")", x.blocker(crane), Sites.NONE);
+            Check.due("waits(" + crane + ", 1000)", x.waits(crane, 1000), 0);
+        }
+        Check.due("allDone()", x.allDone(), 55);
+        x.tick(8);
+        int[][] due = {{9, 2, 0, Sites.NONE, 0, 0, 0, 0, 0, 1}, {30, 1, 9, 32, 1, 0, 0, 0, 0, 18},
+            {13, 5, 4, 3, -1, 3, 0, 0, 0, 1}, {18, 3, 4, 19, 1, 2, 0, 0, 0, 2}};
+        for (int crane = 0; crane < 4; crane++) {
+            for (int what = 0; what < 10; what++) {
+                Check.due("crane(" + crane + ", " + what + ")", x.crane(crane, what), due[crane][what]);
+            }
+        }
+    }
+
+    private static void fullSiteLeft() {
+        Doc.says(ZONES, "There are 6 zones, numbered from 0.");
+        for (int crane = 0; crane < 4; crane++) {
+            CraneGuard x = full();
+            Check.due("leave(" + crane + ", true)", x.leave(crane, true), 0);
+            Check.due("the zones that it occupies", x.crane(crane, Sites.OCCUPIED), 63);
+            for (int zone = 0; zone < 6; zone++) {
+                Check.due("occupants()", x.occupants(zone), 1 << crane);
+            }
+            Check.due("conflicts()", x.conflicts(), 0);
+            for (int other = 0; other < 4; other++) {
+                Check.due("leave() of another one", x.leave(other, true), other == crane ? 1 : Sites.BAD_STATE);
+                Check.due("blocker() of a crane far from its arcs", x.blocker(other), Sites.NONE);
             }
         }
     }
@@ -460,6 +527,14 @@ final class BoundaryCranesTest {
         x.slew(0, 35, -1);
         x.tick(2);
         Check.due("crane(0, 9) goes on", x.crane(0, Sites.STEPS), 3);
+        CraneGuard y = Sites.withCranes(10, 10, 10, 10);
+        for (int crane = 0; crane < 4; crane++) {
+            y.slew(crane, 11 + crane, 1);
+        }
+        y.tick(9);
+        for (int crane = 0; crane < 4; crane++) {
+            Check.due("crane(" + crane + ", 9)", y.crane(crane, Sites.STEPS), 1 + crane);
+        }
     }
 
     private static void arcLimits() {

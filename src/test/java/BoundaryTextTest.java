@@ -41,7 +41,8 @@ final class BoundaryTextTest {
 
     private static void dueFault(String text, int due) {
         Check.due("textFault() of '" + text + "'", withText(text).textFault(), due);
-        Check.due("command() of '" + text + "'", withText(text).command() < 0 ? 1 : 0, due == Sites.NONE ? 0 : 1);
+        boolean refused = withText(text).command() == Sites.BAD_STATE;
+        Check.holds("command() of '" + text + "' is refused if there is a fault", refused == (due != Sites.NONE));
     }
 
     private static String blanksOf(int many) {

@@ -39,6 +39,16 @@ final class BoundaryWaitingTest {
         Check.due("blocker() turned round", x.blocker(3), 2);
         Check.due("blocker() of a crane that never had a target", x.blocker(0), Sites.NONE);
         Check.due("blocker() of a crane left", x.blocker(2), Sites.NONE);
+        // Also not if another one is in the zone at its angle.
+        CraneGuard y = BoundaryCranesTest.occupiedBy(15, 5);
+        for (int crane = 0; crane < 4; crane++) {
+            y.stop(crane);
+            Check.due("blocker() without a target, in a conflict", y.blocker(crane), Sites.NONE);
+        }
+        y.tick(3);
+        Check.due("conflicts()", y.conflicts(), 32);
+        Check.due("the wait without a target, in a conflict", y.crane(3, Sites.WAIT), 0);
+        Check.due("cycle() of cranes without targets", y.cycle(), 0);
     }
 
     private static void blockedOnNoStep() {
