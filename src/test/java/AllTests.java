@@ -6,6 +6,8 @@ public final class AllTests {
     public static void main(String[] args) {
         FaceTest.run();
         LanguageTest.run();
+        RulesTest.run();
+        ReadmeTest.run();
         CranesAndZonesTest.run();
         TurningTest.run();
         WaitingTest.run();
